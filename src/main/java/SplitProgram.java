@@ -369,7 +369,7 @@ public final class SplitProgram {
         }
         int found = 0;
         for (int plan = 0; plan < PLANS; plan++) {
-            if (state.program.isPlan(plan) && isExactAt(i, plan)) {
+            if (state.program.isPlan(plan) && fitsAt(i, plan)) {
                 found++;
             }
         }
@@ -555,7 +555,7 @@ public final class SplitProgram {
         engine.bounds.stale = true;
     }
 
-    private boolean isExactAt(int i, int plan) {
+    private boolean fitsAt(int i, int plan) {
         Program g = state.program;
         int c = state.cuts.cases[i];
         int value = state.cuts.valueAt(g, i, plan);

@@ -477,6 +477,7 @@ final class Model {
         return n;
     }
 
+    @SuppressWarnings("serial")
     private static final class Fault extends RuntimeException {
         final int at;
 
