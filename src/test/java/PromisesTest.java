@@ -179,6 +179,11 @@ public final class PromisesTest {
         fault("site ;;site", 6);
         fault("site site", 5);
         fault("sites", 0);
+        fault("plantz 1 1 1", 0);
+        fault("plant{1 1 1", 5);
+        fault("plant`1 1 1", 5);
+        fault("plant 1:1 1", 7);
+        fault("plant 1/1 1", 7);
         fault("sit", 0);
         fault("Site", 0);
         fault("7", 0);
@@ -420,6 +425,12 @@ public final class PromisesTest {
         due.is("the gap is small", z.now(0), 3);
         due.is("no cut comes", z.now(6), 2);
         due.is("upper", z.now(2), 29);
+        z = Due.from("plant 1 5 1;plant 6 10 1;site;road 0 0 2;road 1 0 1;case 1 5");
+        due.is("go(2)", z.go(2), 2);
+        due.is("best", z.now(3), 1);
+        due.is("another plan", z.round() * 100 + z.now(4), 104);
+        due.is("of the same total", z.total(4), z.now(2));
+        due.is("the first stays the best", z.now(3), 1);
         z = Due.from("plant 0 20 1;site;road 0 0 1;case 1 20");
         z.terms(2, 1000);
         z.round();
@@ -490,6 +501,12 @@ public final class PromisesTest {
         due.is("over", x.round(), 0);
         due.is("cuts", x.now(6), 4);
         due.is("least", x.now(2), 2 + 6 + 5 + 20);
+        x = Due.from("plant 1 9 3;site;road 0 0 2;case 2 3;case 3 2;case 1 6");
+        x.terms(0, 1);
+        x.go(2);
+        due.is("equal points: the lowest case", x.cut(1, 0) * 10 + x.cut(1, 1), 0);
+        x.round();
+        due.is("then the next", x.cut(2, 0), 1);
     }
 
     private static void going() {
@@ -741,6 +758,8 @@ public final class PromisesTest {
         y = Due.from("plant 3 5 3");
         due.is("regret without cases", y.regret(3), 0);
         due.is("mean without cases", y.mean(3), NO);
+        y = Due.from("plant 3 5 3;site;road 0 0 1;case 9;case 1 1");
+        due.is("mean below 1", y.mean(3), Double.doubleToLongBits(0.1));
         y = Due.from("plant 3 5 3;case 7");
         due.is("mean 0", y.mean(3), 0);
     }
