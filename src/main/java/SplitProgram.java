@@ -587,17 +587,13 @@ public final class SplitProgram {
         return (float) (upper - lower) / (float) upper;
     }
 
-    /** The bits by hand, for the language's library has no floatToIntBits; x is 0 or a normal number above. */
+    /** The bits by hand, as the language's library has no floatToIntBits; x is a gap: 0, or normal and 1 at most. */
     private static int bitsOfFloat(float x) {
         if (!(x > 0.0f)) {
             return 0;
         }
         float rest = x;
         int exponent = 127;
-        for (int i = 0; i < 128 && rest >= 2.0f; i++) {
-            rest = rest / 2.0f;
-            exponent++;
-        }
         for (int i = 0; i < 126 && rest < 1.0f; i++) {
             rest = rest * 2.0f;
             exponent--;
@@ -606,7 +602,7 @@ public final class SplitProgram {
         return (exponent << 23) | (digits & 8388607);
     }
 
-    /** As bitsOfFloat, of a double. */
+    /** As bitsOfFloat, of a mean, which may be above 1. */
     private static long bitsOfDouble(double x) {
         if (!(x > 0.0)) {
             return 0L;

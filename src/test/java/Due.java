@@ -16,6 +16,53 @@ final class Due {
         }
     }
 
+    /** A call of the face, to be made when the test says. */
+    interface Act {
+        int on(SplitProgram x);
+    }
+
+    /** A call of the face with one number that the test varies. */
+    interface ActBy {
+        int on(SplitProgram x, int value);
+    }
+
+    /** The call is refused by that: the answer, status() and the count all tell it. */
+    void refused(String call, SplitProgram x, int by, Act act) {
+        int before = x.count(6 - by);
+        is(call, act.on(x), by);
+        is("status() behind " + call, x.status(), by);
+        is("count(" + (6 - by) + ") behind " + call, x.count(6 - by), before + 1);
+    }
+
+    /** The call is refused by that, and all that stood stands as it did. */
+    void refusedWithoutTrace(String call, SplitProgram x, int by, Act act) {
+        long[] before = Look.at(x);
+        refused(call, x, by, act);
+        same("what stands behind " + call, Look.at(x), before);
+    }
+
+    /** The call is refused by that with each of these numbers, and all that stood stands as it did. */
+    void eachRefused(String call, SplitProgram x, int by, int[] values, ActBy act) {
+        long[] before = Look.at(x);
+        for (int value : values) {
+            refused(call + " with " + value, x, by, y -> act.on(y, value));
+        }
+        same("what stands behind " + call, Look.at(x), before);
+    }
+
+    /** The call is not refused: its answer, and status() 0. */
+    void taken(String call, SplitProgram x, int want, Act act) {
+        is(call, act.on(x), want);
+        is("status() behind " + call, x.status(), 0);
+    }
+
+    void same(String what, long[] got, long[] want) {
+        is(what + ": how much", got.length, want.length);
+        for (int i = 0; i < Math.min(got.length, want.length); i++) {
+            is(what + ": the answer " + i + " of Look", got[i], want[i]);
+        }
+    }
+
     void close() {
         System.out.println(wrong == 0 ? "all answers are as due" : wrong + " answers are not as due");
         if (wrong != 0) {
