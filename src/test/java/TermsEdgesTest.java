@@ -530,6 +530,13 @@ public final class TermsEdgesTest {
         five.terms(3, 5);
         due.is("ROOM 5", five.round(), 1);
         due.is("over", five.round() * 10 + five.now(0), 1);
+        SplitProgram six = Due.from("plant 1 20 3;plant 1 20 3;site;site;road 0 0 2;road 1 1 2;case 1 5;case 1 6;"
+            + "case 1 0 7;case 1 0 8");
+        six.terms(0, 1);
+        six.terms(3, 4);
+        due.is("RAYS of CASES 3 and 1, POINTS of 3 and 2", six.go(99), 4);
+        due.is("their CASES", six.cut(0, 0) * 1000 + six.cut(1, 0) * 100 + six.cut(2, 0) * 10 + six.cut(3, 0), 3132);
+        due.refused("one of two that are left", six, -5, SplitProgram::round);
         due.part("Terms III (promise 13): WAY 1, \"or, without a RAY, the POINT\"");
         SplitProgram y = Due.from(BOTH);
         y.terms(0, 1);
@@ -860,6 +867,17 @@ public final class TermsEdgesTest {
         due.is("round()", y.round(), -3);
         due.is("exact(0)", y.exact(0), 3);
         due.is("total(9)", y.total(9), 29);
+        due.part("Terms IV (promise 34): CUTS of the CASES they were of");
+        SplitProgram two = Due.from("plant 1 9 3;site;road 0 0 2;case 1 5;case 1 7");
+        two.round();
+        two.image(0);
+        two.clear();
+        two.terms(0, 1);
+        two.round();
+        due.is("the RAY of CASE 1 is the first", two.cut(0, 0), 1);
+        two.back(0);
+        due.is("CASES 0, 1", two.cut(0, 0) * 10 + two.cut(1, 0), 1);
+        due.is("it TELLS as it did", two.tells(0, 0) * 10 + two.tells(1, 0), 57);
         due.part("Terms IV (promise 34): REFUSED, all stays, what can be undone too");
         SplitProgram z = with(PAIR, 2);
         due.refused("back(0)", z, -2, t -> t.back(0));
